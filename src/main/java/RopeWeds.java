@@ -332,7 +332,8 @@ public final class RopeWeds {
     public int needed(int p, int j, int k) throws NoSuchElementException {
         needWalk(p, j, k);
         ahead.begin(p);
-        return ahead.neededPlaces(j, k);
+        int hours = ahead.findWay(j, k);
+        return ahead.neededPlaces(j, k, hours);
     }
 
     public int clear(int p, int j, int k) throws NoSuchElementException {
@@ -735,7 +736,7 @@ public final class RopeWeds {
             }
         }
 
-        /** The number that stands here, not yet taken; 0 with a fault. */
+        /** Takes a number; 0 with a fault. */
         private int number(int least, int most) {
             if (token() != Tokens.NUMBER) {
                 refuse(2);
@@ -746,30 +747,26 @@ public final class RopeWeds {
                 refuse(3);
                 return 0;
             }
-            return v;
-        }
-
-        private int takeNumber(int least, int most) {
-            int v = number(least, most);
-            take(Tokens.NUMBER);
+            at++;
             return v;
         }
 
         private int takePlace(int taboo) {
-            int x = takeNumber(0, isle.wide - 1);
+            int x = number(0, isle.wide - 1);
             int y = number(0, isle.high - 1);
             int k = isle.wide * y + x;
             if (fault == 0 && (taboo >>> k & 1) != 0) {
+                // The fault is told of y, which was just taken.
+                at--;
                 refuse(3);
             }
-            take(Tokens.NUMBER);
             return k;
         }
 
         private void readHead() {
             take(Tokens.ISLAND);
-            isle.wide = takeNumber(2, 5);
-            isle.high = takeNumber(2, 5);
+            isle.wide = number(2, 5);
+            isle.high = number(2, 5);
             take(';');
             isle.lines = 1;
         }
@@ -813,14 +810,14 @@ public final class RopeWeds {
                 return;
             }
             at++;
-            isle.rope[p] = takeNumber(1, 20);
+            isle.rope[p] = number(1, 20);
             take(Tokens.AT);
             life.first[p] = takePlace(isle.rocks);
             take(Tokens.AND);
             life.second[p] = takePlace(isle.rocks);
             if (token() == Tokens.KNOTS) {
                 at++;
-                life.knots[p] = takeNumber(0, 9);
+                life.knots[p] = number(0, 9);
             }
             peopleBits |= 1 << life.first[p] | 1 << life.second[p];
             isle.pairs++;
@@ -828,14 +825,14 @@ public final class RopeWeds {
 
         private void readRain() {
             at++;
-            life.hard = takeNumber(0, 9);
+            life.hard = number(0, 9);
             take(Tokens.FOR);
-            life.rainEnd = takeNumber(1, 99);
+            life.rainEnd = number(1, 99);
         }
 
         private void readHour() {
             at++;
-            life.hour = takeNumber(0, 999);
+            life.hour = number(0, 999);
         }
 
         private void readLengthLaw() {
@@ -1002,36 +999,36 @@ public final class RopeWeds {
             int top = -1;
             for (int i = 0; i < size; i++) {
                 int what = code[i];
-                if (what >= FIRST_NUMBER && top < DEEP - 1) {
+                if (what >= Tokens.ROPE && what <= Tokens.WHO || what >= FIRST_NUMBER) {
+                    if (top >= DEEP - 1) {
+                        return 0;
+                    }
                     top++;
-                    stack[top] = what - FIRST_NUMBER;
-                } else if (what >= Tokens.ROPE && what <= Tokens.WHO && top < DEEP - 1) {
-                    top++;
-                    stack[top] = names[what - Tokens.ROPE];
-                } else if (what == Tokens.NOT && top >= 0) {
-                    stack[top] = 1 - stack[top];
-                } else if (top >= 1) {
-                    top--;
-                    stack[top] = joined(what, stack[top], stack[top + 1]);
+                    stack[top] = what >= FIRST_NUMBER ? what - FIRST_NUMBER : names[what - Tokens.ROPE];
+                    continue;
                 }
+                int left = what == Tokens.NOT ? top : top - 1;
+                if (left < 0) {
+                    return 0;
+                }
+                long a = stack[left];
+                long b = stack[top];
+                long v;
+                switch (what) {
+                    case Tokens.NOT: v = 1 - a; break;
+                    case Tokens.AND: v = a & b; break;
+                    case Tokens.OR: v = a | b; break;
+                    case '=': v = a == b ? 1 : 0; break;
+                    case '<': v = a < b ? 1 : 0; break;
+                    case '>': v = a > b ? 1 : 0; break;
+                    case '+': v = a + b; break;
+                    case '-': v = a - b; break;
+                    default: v = a * b; break;
+                }
+                top = left;
+                stack[top] = v > KEPT ? KEPT : v < -KEPT ? -KEPT : v;
             }
-            return top >= 0 ? stack[0] : 0;
-        }
-
-        private static long joined(int sign, long a, long b) {
-            long v;
-            switch (sign) {
-                case '+': v = a + b; break;
-                case '-': v = a - b; break;
-                case '*': v = a * b; break;
-                case '=': return a == b ? 1 : 0;
-                case '<': return a < b ? 1 : 0;
-                case '>': return a > b ? 1 : 0;
-                case Tokens.AND: return a & b;
-                case Tokens.OR: return a | b;
-                default: return 0;
-            }
-            return v > KEPT ? KEPT : v < -KEPT ? -KEPT : v;
+            return top < 0 ? 0 : stack[0];
         }
     }
 
@@ -1321,32 +1318,27 @@ public final class RopeWeds {
         /** Does a told deed, if it can be; why it can't, 0 if it can. */
         int doTold(long v, boolean asDeed) {
             int n = v < NONE || v > 2009 ? -2 : (int) v;
-            int why = whyNot(n);
+            boolean step = n >= 0 && n < 400;
+            boolean knots = n >= 1000 && n < 1040 && (n - 1000) / 10 < isle.pairs;
+            boolean can = step || knots || n == NONE || n >= 2000;
+            int why = step ? whyNoStep(n / 100, n / 10 % 10, n % 10) : can ? 0 : 1;
             if (why != 0) {
                 return why;
             }
             if (asDeed) {
                 remember();
             }
-            if (n >= 2000) {
-                life.letRain(n - 2000, TOLD_RAIN);
-            } else if (n >= 1000) {
+            if (knots) {
                 life.knots[(n - 1000) / 10] = n % 10;
+            } else if (n >= 2000) {
+                life.letRain(n - 2000, TOLD_RAIN);
             } else {
-                if (n != NONE) {
+                if (step) {
                     walk(n / 100, n / 10 % 10, n % 10);
                 }
                 passHour();
             }
             return 0;
-        }
-
-        private int whyNot(int n) {
-            if (n >= 0 && n < 400) {
-                return whyNoStep(n / 100, n / 10 % 10, n % 10);
-            }
-            boolean knots = n >= 1000 && n < 1040 && (n - 1000) / 10 < isle.pairs;
-            return knots || n == NONE || n >= 2000 ? 0 : 1;
         }
 
         // Seasons
@@ -1689,8 +1681,8 @@ public final class RopeWeds {
             return world.life.second[p];
         }
 
-        int neededPlaces(int j, int k) {
-            int hours = findWay(j, k);
+        /** Which places all ways need, a way of so many hours being found. */
+        int neededPlaces(int j, int k, int hours) {
             int first = startFirst();
             int second = startSecond();
             int ends = 1 << first | 1 << second | 1 << j | 1 << k;
@@ -1711,6 +1703,7 @@ public final class RopeWeds {
             return bits;
         }
 
+        /** The rock without which the way is soonest, and sooner than it is. */
         int rockInTheWay(int j, int k) {
             int now = hoursTo(j, k, world.isle.rocks);
             int least = now == NONE ? HORIZON + 1 : now;

@@ -57,6 +57,17 @@ public final class ComeTest {
         T.on("20 reach on a field", "island 3 3; pair 9 at 1 1 and 0 0;");
         T.due(0b010111010, "reach", 0, 0, 1).due(0b000001011, "reach", 0, 1, 1).due(511, "reach", 0, 0, 2);
         T.due(0b001011111, "reach", 0, 1, 2);
+        // One object, islands of another shape: as many places, as wide, smaller.
+        T.same("another island", "2", T.face.tell("island 4 2; pair 2 at 0 0 and 0 0;"));
+        T.due(0b00010011, "reach", 0, 0, 1).due(2, "farthest", 0, 5).due(0b01111111, "reach", 0, 1, 3);
+        T.same("another island", "2", T.face.tell("island 2 4; pair 2 at 0 0 and 0 0;"));
+        T.due(0b00000111, "reach", 0, 0, 1).due(2, "farthest", 0, 5).due(0b01111111, "reach", 0, 1, 3);
+        T.same("another island", "2", T.face.tell("island 2 3; pair 2 at 0 0 and 0 0;"));
+        T.due(0b00000111, "reach", 0, 0, 1).due(2, "farthest", 0, 5).due(0b00111111, "reach", 0, 1, 3);
+        T.same("another island", "2", T.face.tell("island 3 2; pair 2 at 0 0 and 0 0;"));
+        T.due(0b00001011, "reach", 0, 0, 1).due(2, "farthest", 0, 5).due(0b00111111, "reach", 0, 1, 3);
+        T.same("another island", "2", T.face.tell("island 5 5; pair 2 at 0 0 and 0 0;"));
+        T.due(0b00000100011, "reach", 0, 0, 1).due(2, "farthest", 0, 5);
         // There is no way on: nowhere at all.
         T.on("20 reach without a way on", ROW + "pair 1 at 0 0 and 4 0;");
         T.due(1, "reach", 0, 0, 0).due(0, "reach", 0, 0, 1).due(0, "reach", 0, 1, 40);
@@ -106,6 +117,8 @@ public final class ComeTest {
         T.due(4, "farthest", 1, 0).due(-1, "farthest", 1, 1).due(-1, "farthest", 1, 40);
         T.refused(Check.ARGUMENT, "farthest", 0, 41).refused(Check.ARGUMENT, "farthest", 0, -1);
         T.refused(Check.NO_SUCH, "farthest", 2, 41).refused(Check.NO_SUCH, "farthest", -1, 0);
+        T.on("23 farthest now", ROW + "pair 3 at 4 0 and 0 0; pair 3 at 0 0 and 4 0; pair 3 at 2 0 and 0 0;");
+        T.due(4, "farthest", 0, 0).due(4, "farthest", 1, 0).due(2, "farthest", 2, 0);
         T.on("23 farthest on the widest island", "island 5 5; pair 20 at 2 2 and 2 2; pair 7 at 2 2 and 2 2;");
         T.due(2, "farthest", 0, 1).due(8, "farthest", 0, 4).due(7, "farthest", 1, 40).due(6, "farthest", 1, 3);
     }

@@ -59,6 +59,10 @@ public final class DeedsTest {
         T.due(2, "step", 1, 2, 3).refused("-2", "step", 0, 2, 0).due(1, "step", 1, 0, 2);
         T.refused("-2", "step", 1, 0, 2).due(1, "step", 1, 0, 0);
         T.due(0, "step", 0, 0, 0);
+        T.on("10 step to the place 0", "island 2 2; rock 0 0; pair 9 at 1 0 and 0 1;");
+        T.refused("-2", "step", 0, 4, 0).refused("-2", "step", 0, 0, 1);
+        T.on("10 step to the place 0 by law", "island 2 2; pair 9 at 1 0 and 0 1; may: x + y > 0;");
+        T.refused("-2", "step", 0, 4, 0).refused("-2", "step", 0, 0, 1).due(1, "step", 0, 3, 0);
         T.on("10 staying isn't asked", "island 2 2; pair 9 at 0 0 and 0 0; may: 1 = 2;");
         T.due(0, "step", 0, 0, 0).refused("-2", "step", 0, 2, 0).due(1, "count", 6);
     }
@@ -215,6 +219,8 @@ public final class DeedsTest {
         T.due(1, "season", 7, 1).due(7, "pair", 0, 2).due(3, "pair", 0, 3).due(0, "undo", 1);
         T.due(1, "season", 6, 1).due(5, "count", 7).due(0, "count", 6).due(0, "hours", 5).due(5, "count", 7);
         T.due(0, "hours", 1).due(0, "count", 7).due(0, "undo", 3);
+        T.due(1, "season", 55, 1).due(3, "pair", 1, 1).due(0, "pair", 0, 1).due(0, "undo", 1);
+        T.due(1, "season", -340, 1).due(9, "count", 7).due(0, "undo", 1);
         T.due(1, "season", -1, 1).due(5, "pair", 1, 2).due(1, "pair", 1, 3).due(0, "undo", 1);
         // By the draws of 0: an hour, then 54236 % 5 = 1, pair 42756 % 2 = 0, turns 0 and 3.
         T.due(2, "season", 0, 2).due(4, "pair", 0, 2).due(7, "pair", 0, 3).due(2, "count", 6).due(2, "count", 9);

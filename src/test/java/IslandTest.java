@@ -15,6 +15,8 @@ public final class IslandTest {
         length();
         keptWithin();
         may();
+        toldAnew();
+        longest();
         Check.end();
     }
 
@@ -150,6 +152,14 @@ public final class IslandTest {
         faulty(1, "island 2 2; hour ^1000;");
         faulty(2, "island 2 2; ^hours 9;");
         faulty(2, "island 2 2; ^7;");
+        faulty(2, "island 2 2; ^zaz;");
+        faulty(1, "island 2 2;^`");
+        faulty(1, "island 2 2;^{");
+        faulty(1, "island 2 2;^/");
+        faulty(1, "island 2 2;^,");
+        faulty(2, "island 2 2; ^rockx 0 0;");
+        faulty(2, "island 2 2; ^roc 0 0;");
+        faulty(2, "island 2 2; length: ^r;");
         faulty(2, "island 2 2; ^knots 7;");
         String houses = "";
         for (int i = 0; i < 8; i++) {
@@ -270,6 +280,9 @@ public final class IslandTest {
     private static void keptWithin() {
         lengthIs(99, "100");
         lengthIs(99, "99");
+        lengthIs(98, "98");
+        lengthIs(90, "90");
+        lengthIs(99, "999");
         lengthIs(0, "knots - rope");
         lengthIs(99, "999 * 999 * 999");
         lengthIs(1, "999 * 999 * 999 - 999 * 999 - 999 - 999");
@@ -317,5 +330,49 @@ public final class IslandTest {
         lawSays(true, "999*999*999 = 999*999*998");
         lawSays(true, "0-999*999*999 = 0-999*999*998");
         lawSays(true, "1+2*3 = 7 and (1+2)*3 = 9");
+    }
+
+    /** Nothing of an island, or of a text that was refused, is left in the next. */
+    private static void toldAnew() {
+        T.on("3 told anew", "island 5 4; house 1 1; house 2 1; rock 0 0; pair 3 at 1 0 and 1 2 knots 2;"
+                + "pair 9 at 3 3 and 4 3 knots 3; length: 7; may: x = 4; rain 8 for 8; hour 88;");
+        T.same("3 refused", "-12", T.face.tell("island 5 5; house 2 2; rock 3 3; pair 20 at 4 4 and 4 4; length: 50; may: 1=2; x"));
+        T.same("3 plain", "5", T.face.tell("island 3 3; rock 2 2; rock 1 1; rock 1 2; pair 3 at 0 0 and 2 1;"));
+        long[] due = {5, 3, 3, 1, 0, 3, 0, 0, 0, 0, 0};
+        for (int what = 0; what <= 10; what++) {
+            T.due(due[what], "count", what);
+        }
+        T.due(10, "place", 0).due(10, "place", 5).due(-2, "place", 4).due(0, "place", 2).due(Check.NO_SUCH, "house", 0);
+        T.due(3, "pair", 0, 5).due(0, "pair", 0, 1).due("true", "may", 0, 0, 1, 0).due(0, "housed");
+        T.same("3 bare", "1", T.face.tell("island 2 2;"));
+        long[] bare = {1, 2, 2, 0, 0, 0, 0, 0, 0, 0, 0};
+        for (int what = 0; what <= 10; what++) {
+            T.due(bare[what], "count", what);
+        }
+    }
+
+    /** Texts that fill the whole tape. */
+    private static void longest() {
+        StringBuilder text = new StringBuilder("island 2 2;pair 9 at 0 0 and 1 1;length:9");
+        while (text.length() < 898) {
+            text.append(text.length() % 4 == 1 ? "-1" : "+1");
+        }
+        text.append(text.length() == 898 ? " ;" : ";");
+        T.on("3 the longest text", text.toString());
+        int due = 9;
+        for (int i = text.indexOf("9+") < 0 ? text.indexOf("9-") : text.indexOf("9+"); i < text.length(); i++) {
+            due += text.charAt(i) == '+' ? 1 : text.charAt(i) == '-' ? -1 : 0;
+        }
+        T.due(due, "length", 0, 0).due(3, "count", 0);
+        if (text.length() != 900) {
+            T.report("the text has " + text.length() + " bytes");
+        }
+        String ends = text.substring(0, 899);
+        T.promise("3 the longest text without its end").same("refused", "-12", T.face.tell(ends)).due(899, "fault", 1);
+        T.promise("3 the longest text and more").same("refused", "-12", T.face.tell(ends + "+")).due(900, "fault", 1);
+        T.promise("3 nothing but signs").same("refused", "-12", T.face.tell(";".repeat(900))).due(0, "fault", 1);
+        T.promise("3 nothing but blanks").same("refused", "-12", T.face.tell(" ".repeat(900))).due(900, "fault", 1);
+        T.on("3 as many lines as can be", "island 5 5;" + "hour 9;".repeat(126) + "hour 8;").due(128, "count", 0);
+        T.due(8, "count", 6);
     }
 }

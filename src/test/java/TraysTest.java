@@ -88,6 +88,7 @@ public final class TraysTest {
     private static void image() {
         T.on("43, 44 image", "island 3 2; rock 1 1; house 0 0; pair 2 at 0 0 and 1 0; pair 1 at 2 0 and 2 1; hour 5;"
                 + "length: rope - rain; may: x < 2 or hour = 7;");
+        String first = T.face.state();
         T.due(0, "step", 0, 2, 0).due(2, "tie", 0, 9).due(2, "rain", 8, 2).due("null", "image", 1);
         String then = T.face.state();
         long ways = Long.parseLong(T.face.call("ways", 0, 1, 1, 3));
@@ -97,6 +98,10 @@ public final class TraysTest {
         // The deeds of then can be undone, those since can't; an image can be gone back to again and again.
         T.due(3, "count", 9).due(2, "undo", 1).due(0, "undo", 2).due(5, "count", 6).due(0, "pair", 0, 2);
         T.due("null", "restore", 1).same("44 the state restored again", then, T.face.state());
+        for (int i = 1; i <= 12; i++) {
+            T.face.call("tie", 1, i % 10);
+        }
+        T.due("null", "restore", 1).due(0, "undo", 3).same("44 the first state, undone", first, T.face.state());
         T.due("null", "restore", 0).same("44 the other state", later, T.face.state());
         // Another island does not touch the images; they bring back the old one, with its laws.
         T.same("44 another island", "2", T.face.tell("island 5 5; length: 0;"));

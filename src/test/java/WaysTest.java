@@ -63,6 +63,8 @@ public final class WaysTest {
         T.due(24, "leads", 0, 1, 0, 1).due(2, "leads", 0, 2, 4, 1).due(22, "leads", 0, 2, 4, 2).due(22, "leads", 0, 2, 4, 3);
         T.refused(Check.ARGUMENT, "leads", 0, 4, 3, 0).refused(Check.ARGUMENT, "leads", 0, 4, 3, Integer.MIN_VALUE);
         walksRefused("leads", 0);
+        T.on("25 leads, forty hours", ROW + "pair 9 at 0 0 and 0 0; rain 1 for 40; may: rain = 0;");
+        T.due(0, "leads", 0, 1, 1, 39).due(22, "leads", 0, 1, 1, 40).due(-1, "leads", 0, 1, 1, 41).due(-1, "leads", 0, 2, 1, 1);
         // Of like ones north is ahead of east, east of south, south of west; the first one's turns weigh more.
         T.on("25 leads, of like ones", "island 3 3; pair 9 at 1 1 and 1 1;");
         T.due(12, "leads", 0, 2, 8, 1).due(23, "leads", 0, 2, 8, 2).due(13, "leads", 0, 0, 6, 1).due(44, "leads", 0, 0, 6, 2);
