@@ -24,6 +24,7 @@ public final class RopeWeds {
     private int latestFault = 0;
     private int latestPlace = NONE;
     private final Reader reader = new Reader();
+    // The world is made where it is looked ahead in most, so that no constructor hands out a part.
     private final Ahead ahead = new Ahead();
     private final World world = ahead.world;
     private final World[] images = new World[IMAGES];
@@ -1444,7 +1445,8 @@ public final class RopeWeds {
             }
             opened = Math.max(opened, h);
             for (int i = bound + 1; i <= h; i++) {
-                tether[i] = tied ? Math.min(FARTHEST, world.lengthOf(p, rope, world.life.hour + i)) : FARTHEST;
+                int length = tied ? world.lengthOf(p, rope, world.life.hour + i) : FARTHEST;
+                tether[i] = Math.min(FARTHEST, length);
             }
             bound = Math.max(bound, h);
         }
@@ -1485,12 +1487,11 @@ public final class RopeWeds {
         }
 
         private int spreadAround(int j) {
-            int bits = 0;
-            for (int turn = 1; turn < TURNS; turn++) {
-                int i = world.isle.beside(j, turn);
-                bits |= i == NONE ? 0 : spread[i];
-            }
-            return bits;
+            int north = j >= wide ? spread[j - wide] : 0;
+            int east = (lastColumn >>> j & 1) == 0 ? spread[j + 1] : 0;
+            int south = j + wide < places ? spread[j + wide] : 0;
+            int west = j > 0 && (lastColumn >>> j - 1 & 1) == 0 ? spread[j - 1] : 0;
+            return north | east | south | west;
         }
 
         private boolean goOn(int h) {
@@ -1811,6 +1812,7 @@ public final class RopeWeds {
         private int[] now = new int[(1 << MOST) * PLACES];
         private int[] next = new int[(1 << MOST) * PLACES];
         private final int[] arrived = new int[PLACES];
+        private int asked = 0;
 
         int hoursForAll(Ahead ahead) {
             int all = (1 << many) - 1;
@@ -1843,6 +1845,10 @@ public final class RopeWeds {
         }
 
         private void start(Ahead ahead) {
+            asked = 0;
+            for (int i = 0; i < many; i++) {
+                asked |= told[i] >= 100 ? 1 << told[i] - 100 : 0;
+            }
             Arrays.fill(now, 0);
             Arrays.fill(arrived, 0);
             arrived[ahead.startFirst()] = 1 << ahead.startSecond();
@@ -1877,11 +1883,16 @@ public final class RopeWeds {
         /** Adds those that arrived with some errands done to the sets of all that are done then. */
         private void sortArrived(int done, int[] to) {
             for (int j = 0; j < PLACES; j++) {
-                int byFirst = done | errandsAt(j);
-                for (int k = 0; k < PLACES && arrived[j] != 0; k++) {
-                    if ((arrived[j] >>> k & 1) != 0) {
-                        int all = byFirst | errandsAt(100 + k);
-                        to[all * PLACES + j] |= 1 << k;
+                int bits = arrived[j];
+                if (bits != 0) {
+                    int byFirst = done | errandsAt(j);
+                    to[byFirst * PLACES + j] |= bits & ~asked;
+                    for (int i = 0; i < many; i++) {
+                        int k = told[i] - 100;
+                        if (k >= 0 && (bits >>> k & 1) != 0) {
+                            int all = byFirst | errandsAt(told[i]);
+                            to[all * PLACES + j] |= 1 << k;
+                        }
                     }
                 }
             }

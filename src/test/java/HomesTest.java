@@ -56,6 +56,13 @@ public final class HomesTest {
         T.due(1, "shortest", 0).due(1, "shortest", 10).due(0, "shortest", 11);
         T.on("35 shortest, of like ones", "island 3 2; house 2 0; house 0 0; house 1 1; pair 20 at 1 0 and 1 0;");
         T.due(2, "shortest", 0).due(0, "shortest", 10).due(1, "shortest", 11);
+        T.on("35 shortest, eight at home", EIGHT + "pair 9 at 1 0 and 0 0; pair 9 at 2 0 and 3 0; pair 9 at 0 1 and 1 1;"
+                + "pair 9 at 3 1 and 2 1;");
+        long[] homes = {1, 0, 2, 3, 4, 5, 7, 6};
+        for (int i = 0; i < 8; i++) {
+            T.due(homes[i], "shortest", 10 + i);
+        }
+        T.due(0, "shortest", 0);
         // The nearest for the first of all is not the best for all.
         T.on("35 shortest in all", "island 5 2; house 2 0; house 0 0; house 2 1; house 3 1;"
                 + "pair 20 at 1 0 and 2 1; pair 20 at 3 0 and 3 1;");

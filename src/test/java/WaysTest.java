@@ -65,6 +65,11 @@ public final class WaysTest {
         walksRefused("leads", 0);
         T.on("25 leads, forty hours", ROW + "pair 9 at 0 0 and 0 0; rain 1 for 40; may: rain = 0;");
         T.due(0, "leads", 0, 1, 1, 39).due(22, "leads", 0, 1, 1, 40).due(-1, "leads", 0, 1, 1, 41).due(-1, "leads", 0, 2, 1, 1);
+        // They must be where the gap opens in time; what they needn't do yet they leave for later.
+        T.on("25 leads by laws", "island 3 3; rock 0 1; rock 2 1; pair 4 at 0 0 and 2 0;"
+                + "may: not [x = 1 and y = 1] or who = 0 and hour = 2 or who = 1 and hour = 4;");
+        T.due(20, "leads", 0, 7, 7, 1).due(30, "leads", 0, 7, 7, 2).due(4, "leads", 0, 7, 7, 3).due(3, "leads", 0, 7, 7, 4);
+        T.due(33, "leads", 0, 7, 7, 5).due(-1, "leads", 0, 7, 7, 6);
         // Of like ones north is ahead of east, east of south, south of west; the first one's turns weigh more.
         T.on("25 leads, of like ones", "island 3 3; pair 9 at 1 1 and 1 1;");
         T.due(12, "leads", 0, 2, 8, 1).due(23, "leads", 0, 2, 8, 2).due(13, "leads", 0, 0, 6, 1).due(44, "leads", 0, 0, 6, 2);
@@ -133,6 +138,11 @@ public final class WaysTest {
         T.due(4 + 8, "needed", 0, 4, 1).due(2 + 4 + 8, "needed", 0, 4, 0).due(2 + 4, "needed", 0, 4, 3).due(0, "needed", 0, 0, 0);
         T.due(0, "needed", 0, 1, 1).due(0, "needed", 0, 5, 1);
         walksRefused("needed");
+        T.due(14, "needed", 0, 0, 4);
+        T.on("30 needed, but not where they are", ROW + "pair 9 at 1 0 and 0 0; pair 9 at 0 0 and 1 0;");
+        T.due(4, "needed", 0, 3, 4).due(4, "needed", 1, 4, 3).due(0, "needed", 0, 2, 1).due(0, "needed", 1, 1, 2);
+        T.on("30 needed, the place 0", "island 2 2; rock 1 1; pair 9 at 1 0 and 1 0;").due(1, "needed", 0, 2, 1);
+        T.due(1, "needed", 0, 1, 2).due(0, "needed", 0, 0, 0);
         T.on("30 needed, two ways round", "island 3 3; rock 1 1; pair 9 at 0 0 and 0 0; pair 9 at 0 0 and 0 0;");
         T.due(0, "needed", 0, 8, 8).due(0, "needed", 0, 1, 8);
         T.on("30 needed, one gap", "island 3 3; rock 0 1; rock 2 1; pair 9 at 0 0 and 2 0;");
@@ -152,6 +162,10 @@ public final class WaysTest {
         T.refused(Check.NO_SUCH, "clear", 0, 0, -1);
         T.on("31 clear, sooner than now", "island 3 3; rock 1 1; pair 9 at 1 0 and 1 0;");
         T.due(4, "clear", 0, 7, 1).due(-1, "clear", 0, 8, 1).due(-1, "clear", 0, 6, 6).due(4, "clear", 0, 4, 1);
+        T.on("31 clear the place 0", "island 2 2; rock 0 0; rock 1 1; pair 9 at 1 0 and 1 0;");
+        T.due(0, "clear", 0, 0, 0).due(0, "clear", 0, 2, 1).due(3, "clear", 0, 1, 3);
+        T.on("31 clear, forty hours at most", "island 3 2; rock 1 0; rock 1 1; pair 9 at 0 0 and 0 0; rain 1 for 40; may: rain = 0;");
+        T.due(1, "clear", 0, 1, 0).due(-1, "clear", 0, 2, 0).due(0, "rain", 1, 41).due(-1, "clear", 0, 1, 0);
         T.on("31 clear without rocks", "island 3 3; pair 1 at 0 0 and 2 2;").due(-1, "clear", 0, 1, 1);
         T.on("31 clear, but not by law", "island 3 2; rock 1 0; rock 1 1; pair 9 at 0 0 and 0 0; may: not x = 1 or y = 1;");
         T.due(4, "clear", 0, 2, 0);
@@ -210,5 +224,8 @@ public final class WaysTest {
         T.row(0, 1, 0, 107, 4).due(1, "dropped", 0, 0);
         T.row(0, 1, 7, 107).due(-1, "dropped", 0, 0);
         T.row(0, 1, 7, 0, 7).due(-1, "dropped", 0, 0);
+        T.on("33 dropped, forty hours at most", ROW + "pair 9 at 0 0 and 0 0; rain 1 for 40; may: rain = 0;");
+        T.row(0, 1, 1, 107).due(1, "dropped", 0, 0).row(0, 1, 1, 2).due(1, "dropped", 0, 0);
+        T.row(0, 1, 2, 1, 107).due(-1, "dropped", 0, 0).due(0, "rain", 1, 41).row(0, 1, 1, 107).due(-1, "dropped", 0, 0);
     }
 }
