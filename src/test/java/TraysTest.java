@@ -110,6 +110,21 @@ public final class TraysTest {
         // A later image strikes the one before it.
         T.due("null", "restore", 0).due("null", "image", 1).due("null", "restore", 1);
         T.same("43 a later image", later, T.face.state());
+        // All ten deeds that can be undone are of the image, wherever the eldest of them lies.
+        for (int deeds = 10; deeds < 20; deeds++) {
+            T.on("44 deeds of an image", "island 2 2; pair 9 at 0 0 and 0 0;");
+            for (int i = 0; i < deeds; i++) {
+                T.face.call("hours", 1);
+            }
+            T.due("null", "image", 2);
+            for (int i = 0; i < 15; i++) {
+                T.face.call("tie", 0, 9);
+            }
+            T.due("null", "restore", 2).due(deeds, "count", 6);
+            for (int i = 9; i >= 0; i--) {
+                T.due(i, "undo", 1).due(deeds - 10 + i, "count", 6).due(0, "pair", 0, 1);
+            }
+        }
         T.promise("43 an image of a new object").due("null", "image", 2);
         T.same("43 a new object", "2", T.face.tell("island 5 5; hour 9;"));
         T.due(0, "hours", 2).due("null", "restore", 2).due(0, "count", 0).due(0, "count", 1).due(0, "count", 6);

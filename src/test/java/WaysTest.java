@@ -191,6 +191,7 @@ public final class WaysTest {
         T.row(0, 1, 0).due(-1, "errands", 0, 0).row(0, 1, 2, 3).due(24, "errands", 0, 0);
         T.on("32 errands, no way on", ROW + "pair 1 at 0 0 and 4 0;");
         T.row(0, 1, 0, 104).due(0, "errands", 0, 0).row(0, 1, 0, 1).due(-1, "errands", 0, 0).due(1, "dropped", 0, 0);
+        T.row(0, 1, 1, 2).due(-1, "errands", 0, 0).due(-1, "dropped", 0, 0);
     }
 
     private static void errandsWrong() {
