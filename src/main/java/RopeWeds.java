@@ -596,6 +596,7 @@ public final class RopeWeds {
         static final int HOUR = 131;
         static final int PAIR = 132;
         static final int X = 133;
+        static final int Y = 134;
         static final int WHO = 135;
         static final int ISLAND = 136;
         static final int ROCK = 137;
@@ -951,6 +952,7 @@ public final class RopeWeds {
 
         private final int[] code = new int[TAPE];
         private int size = 0;
+        // Which names may stand in it while it is read.
         private int firstName = 0;
         private int lastName = -1;
         boolean told = false;
@@ -988,8 +990,6 @@ public final class RopeWeds {
         void copyFrom(Law from) {
             System.arraycopy(from.code, 0, code, 0, from.size);
             size = from.size;
-            firstName = from.firstName;
-            lastName = from.lastName;
             told = from.told;
             readsHour = from.readsHour;
             readsRain = from.readsRain;
@@ -1258,7 +1258,7 @@ public final class RopeWeds {
             names[Tokens.HOUR - Tokens.ROPE] = hour % 24;
             for (int k = from; k < to && wide > 0; k++) {
                 names[Tokens.X - Tokens.ROPE] = k % wide;
-                names[Tokens.X + 1 - Tokens.ROPE] = k / wide;
+                names[Tokens.Y - Tokens.ROPE] = k / wide;
                 if (!isle.mayLaw.told || isle.mayLaw.worth(names, stack) != 0) {
                     bits |= 1 << k;
                 }
