@@ -1,6 +1,8 @@
 import java.lang.reflect.InvocationTargetException;
 import java.lang.reflect.Method;
 import java.nio.charset.StandardCharsets;
+import java.util.ArrayList;
+import java.util.List;
 import java.util.Map;
 import java.util.TreeMap;
 
@@ -8,6 +10,19 @@ import java.util.TreeMap;
 final class Face {
     private final Object object;
     private final Map<String, Method> methods = new TreeMap<>();
+    /** The calls that made the object what it is, so that another can be made alike. */
+    private final List<Call> told = new ArrayList<>();
+    private boolean asking = false;
+
+    private static final class Call {
+        final String name;
+        final long[] args;
+
+        Call(String name, long[] args) {
+            this.name = name;
+            this.args = args.clone();
+        }
+    }
 
     Face(Object object) {
         this.object = object;
@@ -21,6 +36,9 @@ final class Face {
 
     /** What a call answers, as a text; an exception as throws. and its name. */
     String call(String name, long... args) {
+        if (!asking) {
+            told.add(new Call(name, args));
+        }
         Method m = methods.get(name);
         Class<?>[] types = m.getParameterTypes();
         if (types.length != args.length) {
@@ -60,8 +78,116 @@ final class Face {
         }
     }
 
+    /** Another object on which the same calls were made. */
+    Face twin() {
+        Face other;
+        try {
+            other = new Face(object.getClass().getDeclaredConstructor().newInstance());
+        } catch (ReflectiveOperationException e) {
+            throw new IllegalStateException(e);
+        }
+        for (Call c : told) {
+            other.call(c.name, c.args);
+        }
+        return other;
+    }
+
+    /** How many calls were told to the object. */
+    int calls() {
+        return told.size();
+    }
+
+    private int number(String call, long... args) {
+        return Integer.parseInt(call(call, args));
+    }
+
+    private void ask(StringBuilder all, String call, long... args) {
+        all.append(call(call, args)).append(' ');
+    }
+
+    /** What deeds change, in a few calls. */
+    private void brief(StringBuilder all) {
+        all.append("| ");
+        for (int what = 6; what <= 9; what++) {
+            ask(all, "count", what);
+        }
+        int pairs = number("count", 3);
+        for (int p = 0; p < pairs; p++) {
+            ask(all, "pair", p, 1);
+            ask(all, "pair", p, 2);
+            ask(all, "pair", p, 3);
+        }
+    }
+
+    /**
+     * All that is in the object, what only comes to light by further calls too: deeds that can be undone,
+     * images, rows, the tape. The object is another one then.
+     */
+    String depths() {
+        StringBuilder all = new StringBuilder();
+        ask(all, "count", 0);
+        ask(all, "fault", 0);
+        ask(all, "fault", 1);
+        shown(all);
+        for (int t = 0; t < 4; t++) {
+            for (int what = 0; what < 4; what++) {
+                ask(all, "judge", t, what);
+            }
+        }
+        for (int left = number("count", 9); left > 0; left--) {
+            ask(all, "undo", 1);
+            brief(all);
+        }
+        for (int i = 0; i < 3; i++) {
+            ask(all, "restore", i);
+            brief(all);
+            ask(all, "undo", number("count", 9));
+            brief(all);
+        }
+        for (int t = 0; t < 4; t++) {
+            ask(all, "perform", t);
+            brief(all);
+            boolean there = true;
+            for (int i = 0; i <= 30 && there; i++) {
+                String got = call("write", t, i, 0x8182838485868788L);
+                all.append(got).append(' ');
+                there = !got.startsWith("throws.");
+            }
+        }
+        int bytes = number("count", 10);
+        all.append("| ").append(bytes).append(' ');
+        ask(all, "island", bytes);
+        ask(all, "fault", 0);
+        ask(all, "fault", 1);
+        shown(all);
+        return all.toString();
+    }
+
+    private void shown(StringBuilder all) {
+        brief(all);
+        int places = number("count", 1) * number("count", 2);
+        for (int k = 0; k < places; k++) {
+            ask(all, "place", k);
+        }
+        int houses = number("count", 4);
+        for (int h = 0; h < houses; h++) {
+            ask(all, "house", h);
+        }
+        int pairs = number("count", 3);
+        for (int p = 0; p < pairs; p++) {
+            ask(all, "pair", p, 0);
+            ask(all, "pair", p, 6);
+            for (int n = 0; n < 30; n += 7) {
+                ask(all, "length", p, n);
+            }
+            ask(all, "reach", p, 0, 3);
+            ask(all, "reach", p, 1, 2);
+        }
+    }
+
     /** All that can be asked without changing anything, in one text. */
     String state() {
+        asking = true;
         StringBuilder all = new StringBuilder();
         for (int what = 0; what <= 10; what++) {
             all.append(call("count", what)).append(' ');
@@ -88,6 +214,7 @@ final class Face {
                 all.append(call("judge", t, what)).append(' ');
             }
         }
+        asking = false;
         return all.toString();
     }
 }

@@ -152,7 +152,8 @@ public final class TraysTest {
             T.refused(Check.NO_SUCH, call, Integer.MIN_VALUE).refused(Check.NO_SUCH, call, Integer.MAX_VALUE);
         }
         T.due("null", "image", 1).refused(Check.STATE, "restore", 0).refused(Check.STATE, "restore", 2);
-        T.refused("null", "image", 2).refused("null", "restore", 2).refused("null", "restore", 1);
+        // An image changes nothing but that it is there, and to go back to what is, nothing.
+        T.due("null", "image", 2).refused("null", "image", 2).refused("null", "restore", 2).refused("null", "restore", 1);
     }
 
     private static void count() {
