@@ -88,8 +88,10 @@ public final class LawEdgesTest {
         }
         for (int i = 1; i <= 4; i++) {
             T.on("6 pair, as many as there are", "island 2 2;" + "pair 7 at 1 0 and 0 1;".repeat(i));
-            T.due(7, "pair", i - 1, 0).refused(Check.NO_SUCH, "pair", i, 0).refused(Check.NO_SUCH, "pair", -1, 0);
-            T.refused(Check.NO_SUCH, "pair", 4, 0).refused(Check.NO_SUCH, "pair", 4, 7);
+            T.due(7, "pair", i - 1, 0).refused(Check.NO_SUCH, "pair", -1, 0).refused(Check.NO_SUCH, "pair", 4, 7);
+            for (int p = i; p <= 5; p++) {
+                T.refused(Check.NO_SUCH, "pair", p, 0).refused(Check.NO_SUCH, "lasts", p).refused("-1", "step", p, 0, 0);
+            }
         }
         // The widest, and none at all.
         T.on("6 pair, how far apart", "island 5 5; pair 20 at 0 0 and 4 4; pair 20 at 4 0 and 0 4; pair 20 at 2 2 and 2 2;");
@@ -102,8 +104,10 @@ public final class LawEdgesTest {
         for (int i = 0; i < 8; i++) {
             text.append("house ").append(3 - i % 4).append(' ').append(i / 2).append(';');
             T.on("7 house, " + (i + 1), text.toString());
-            T.due(4 * (i / 2) + 3 - i % 4, "house", i).due(3, "house", 0).refused(Check.NO_SUCH, "house", i + 1);
-            T.refused(Check.NO_SUCH, "house", -1).refused(Check.NO_SUCH, "house", 8);
+            T.due(4 * (i / 2) + 3 - i % 4, "house", i).due(3, "house", 0).refused(Check.NO_SUCH, "house", -1);
+            for (int h = i + 1; h <= 9; h++) {
+                T.refused(Check.NO_SUCH, "house", h);
+            }
         }
         T.edges(Check.NO_SUCH, "house", 0, 0, 7, "3 2 13 12", 0);
     }

@@ -13,6 +13,7 @@ public final class TextEdgesTest {
         faultWhat();
         sizes();
         spots();
+        taken();
         numbers();
         digits();
         oneSign();
@@ -179,6 +180,34 @@ public final class TextEdgesTest {
                 }
             }
         }
+    }
+
+    /** 3: the y of a PLACE where a rock, a house, one of a pair may not be told, whichever of them was told ahead. */
+    private static void taken() {
+        String isle = "island 3 3;rock 0 0;rock 1 0;rock 2 0;house 0 1;house 1 1;house 2 1;pair 1 at 0 2 and 1 2;pair 1 at 2 2 and 2 2;";
+        for (int x = 0; x < 3; x++) {
+            // On a rock: another rock alone. On a house: those of pairs alone. Where one of a pair is: all but rocks.
+            right(isle + "rock " + x + " 0;");
+            T.due(3, "count", 5).due(10, "count", 0);
+            faulty(3, isle + "house " + x + " ^0;");
+            faulty(3, isle + "pair 1 at " + x + " ^0 and 0 1;");
+            faulty(3, isle + "pair 1 at 0 1 and " + x + " ^0;");
+            faulty(3, isle + "rock " + x + " ^1;");
+            faulty(3, isle + "house " + x + " ^1;");
+            right(isle + "pair 1 at " + x + " 1 and " + x + " 1;");
+            T.due(21, "place", 3 + x).due(3, "count", 3);
+            faulty(3, isle + "rock " + x + " ^2;");
+            right(isle + "house " + x + " 2;");
+            T.due(x < 2 ? 11 : 21, "place", 6 + x).due(4, "count", 4);
+            right(isle + "pair 1 at " + x + " 2 and " + x + " 2;");
+            T.due(x < 2 ? 30 : 40, "place", 6 + x);
+            faulty(3, isle + "house " + x + " 2;house " + x + " ^2;");
+            faulty(3, isle + "house " + x + " 2;rock " + x + " ^2;");
+        }
+        // What another text told, one with a fault too, stands in nobody's way.
+        T.face.tell("island 2 2;rock 1 1;house 0 0;pair 1 at 1 0 and 0 1;hour 1;#");
+        T.same("the answer", "6", T.face.tell("island 2 2;rock 0 0;rock 1 0;rock 0 1;house 1 1;pair 1 at 1 1 and 1 1;"));
+        T.same("the answer", "4", T.face.tell("island 2 2;house 0 0;rock 1 1;pair 1 at 1 0 and 0 1;"));
     }
 
     /** A number at both ends of its bounds, and beside them. */
