@@ -49,6 +49,9 @@ public final class TrayEdgesTest {
                 if (many > 0) {
                     T.due(1, "write", 2, many - 1, 1).due(many - 1, "judge", 2, 0);
                 }
+                // Without PAIRS 0 can't be done, while NONE could; as what was seen it is the first PLACE.
+                T.on("40 a row of " + many + ", without pairs", ROW).due("null", "tray", 2, sort, many).due(0, "perform", 2);
+                T.due(many > 0 ? 1 : 0, "judge", 2, 1).due("null", "tray", 2, 3 - sort, many).due(0, "perform", 2);
             }
         }
     }

@@ -27,6 +27,7 @@ public final class WayEdgesTest {
         errands();
         errandNumbers();
         errandsInForty();
+        errandsByRope();
         dropped();
         Check.end();
     }
@@ -313,7 +314,10 @@ public final class WayEdgesTest {
             T.row(0, 1, 0, 0, 0, 0, 0).refused(Check.ARGUMENT, call, 0, 0);
             T.row(0, 1, new long[30]).refused(Check.ARGUMENT, call, 0, 0);
             T.row(0, 1, 0).edges(Check.NO_SUCH, call, 0, 0, 1, call.equals("errands") ? "1 1 1 1" : "0 0 0 0", 0, 0);
-            T.row(3, 1, 1, 0).edges(Check.NO_SUCH, call, 1, 0, 3, (call.equals("errands") ? "1 " : "0 ") + Check.STATE + " " + Check.STATE + " 1", 0, 0);
+            // No such PAIR, no such TRAY, then MISSING, then what is in it.
+            T.row(2, 1, 200).refused(Check.NO_SUCH, call, 2, 2).refused(Check.NO_SUCH, call, 2, 1).refused(Check.NO_SUCH, call, -1, 4);
+            T.refused(Check.NO_SUCH, call, 0, 4).refused(Check.STATE, call, 0, 1).refused(Check.ARGUMENT, call, 0, 2).row(2, 1, 0);
+            T.row(3, 1, 1, 0).edges(Check.NO_SUCH, call, 1, 0, 3, (call.equals("errands") ? "1 " + Check.STATE + " 1 1" : "0 " + Check.STATE + " 0 1"), 0, 0);
         }
     }
 
@@ -353,6 +357,17 @@ public final class WayEdgesTest {
                 T.row(0, 1, 0, 105, far).due(-1, "errands", 0, 0).due(hours <= 40 ? 1 : -1, "dropped", 0, 0);
             }
         }
+    }
+
+    /** 32: who does its errand first, and when, is as the rope of each HOUR lets them. */
+    private static void errandsByRope() {
+        // The first must wait at 2 for the second to come to 3, or the rope is too short in the first HOUR.
+        T.on("32 errands by a rope of each hour", ROW + "pair 1 at 2 0 and 2 0; length: hour * hour;"
+                + "may: who = 0 and hour < 3 or who = 1 and not hour = 2;");
+        T.row(0, 1, 1, 104).due(3, "errands", 0, 0).due(1, "dropped", 0, 0).row(0, 1, 104, 1).due(3, "errands", 0, 0).due(0, "dropped", 0, 0);
+        T.row(0, 1, 1).due(1, "errands", 0, 0).row(0, 1, 104).due(3, "errands", 0, 0);
+        T.on("32 errands by a rope", ROW + "pair 1 at 2 0 and 2 0;").row(0, 1, 0, 104).due(2 + 3, "errands", 0, 0);
+        T.row(0, 1, 104, 0, 4, 100).due(2 + 4, "errands", 0, 0).row(0, 1, 4, 102, 2).due(2, "errands", 0, 0);
     }
 
     private static void dropped() {
